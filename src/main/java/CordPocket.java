@@ -11,6 +11,7 @@ public final class CordPocket {
     private static final int MOST_BYTES = 120, MOST_CHANGES = 40, MOST_LIES = 50, MOST_LETTERS = 6;
     /** With 7 crossings no power of x leaves -42 .. 42, and only even ones come; they lie in a row by halves. */
     private static final int FARTHEST = 42, SPAN = 43, NO_POWER = 21, FARTHEST_TOLD = 60;
+    private static final long NO_ELEMENT = -9223372036854775808L;
 
     private final byte[] tape = new byte[MOST_BYTES];
     private int taped;
@@ -279,7 +280,7 @@ public final class CordPocket {
     }
 
     public long element(int shelf, int i) {
-        return refusalOfElement(shelf, i) != 0 ? Long.MIN_VALUE : shelves[shelf].elements[i];
+        return refusalOfElement(shelf, i) != 0 ? NO_ELEMENT : shelves[shelf].elements[i];
     }
 
     public int shift(int shelf, int i, int other, int j, int n) {
@@ -509,6 +510,7 @@ public final class CordPocket {
         void visit(int name, boolean over, boolean plus) {
             if (name < 0 || name >= numbers.length || visits >= at.length) return;
             if (numbers[name] < 0) {
+                if (crossings >= MOST_CROSSINGS) return;
                 if (plus) pluses |= 1 << crossings;
                 numbers[name] = crossings++;
             }
@@ -608,7 +610,7 @@ public final class CordPocket {
                 int crossing = size / 10 - 1;
                 boolean over = size % 10 == 1;
                 if (size % 10 > 1 || !mayCome(crossing, over)) return false;
-                if (crossing < crossings && isPlus(crossing) != told > 0) return false;
+                if (crossing < crossings && isPlus(crossing) != (told > 0)) return false;
                 visit(crossing, over, told > 0);
             }
             return isWhole();

@@ -1,5 +1,6 @@
 import java.util.ArrayList;
 import java.util.Arrays;
+import java.util.Collections;
 import java.util.HashMap;
 import java.util.HashSet;
 import java.util.List;
@@ -315,7 +316,7 @@ final class Model {
         if (!isPic(picture)) return BAD;
         if (pics.size() == 12) return FULL;
         List<Visit> back = new ArrayList<>(pics.get(picture).visits);
-        java.util.Collections.reverse(back);
+        Collections.reverse(back);
         return add(Pic.numbered(back, pics.get(picture).signMap()));
     }
 

@@ -1,5 +1,8 @@
 import java.util.ArrayList;
+import java.util.Collections;
+import java.util.HashMap;
 import java.util.List;
+import java.util.Map;
 import java.util.Random;
 
 /** Long runs of calls by lot: CordPocket and the model must answer alike, call by call. */
@@ -94,11 +97,25 @@ public final class ModelTest {
             Model.Pic p = Model.closed(word(m, 7), m);
             if (p == null) continue;
             List<Model.Visit> visits = new ArrayList<>(p.visits);
-            if (!visits.isEmpty()) java.util.Collections.rotate(visits, below(visits.size()));
+            if (!visits.isEmpty()) Collections.rotate(visits, below(visits.size()));
             p = Model.Pic.numbered(visits, p.signMap());
             return oneIn(3) ? p.changed(below(128)) : p;
         }
         return new Model.Pic();
+    }
+
+    /** Any visits at all, as a picture may be told but mostly not drawn. */
+    private Model.Pic anyVisits() {
+        int n = 1 + below(5);
+        List<Model.Visit> visits = new ArrayList<>();
+        Map<Integer, Integer> signs = new HashMap<>();
+        for (int c = 0; c < n; c++) {
+            visits.add(new Model.Visit(c, true));
+            visits.add(new Model.Visit(c, false));
+            signs.put(c, oneIn(2) ? 1 : -1);
+        }
+        Collections.shuffle(visits, lot);
+        return Model.Pic.numbered(visits, signs);
     }
 
     private String law(int depth) {
@@ -162,7 +179,7 @@ public final class ModelTest {
 
     private void makePicture() {
         if (model.pics.size() > 6 && !oneIn(6)) return;
-        feed(mutated(somePicture().tape()));
+        feed(mutated(oneIn(4) ? anyVisits().tape() : somePicture().tape()));
         same("picture()", pocket.picture(), model.picture());
     }
 
@@ -175,7 +192,7 @@ public final class ModelTest {
 
     private void makeFromRow() {
         int shelf = below(6), from = below(4);
-        Model.Pic p = somePicture();
+        Model.Pic p = oneIn(6) ? anyVisits() : somePicture();
         if (calls.size() > CALLS - 80) return;
         if (oneIn(10)) from = 60;
         int sort = oneIn(8) ? below(5) : 0, size = Math.min(60, from + 2 * p.n() + (oneIn(6) ? -1 : below(3)));

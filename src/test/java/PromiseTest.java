@@ -278,6 +278,15 @@ public final class PromiseTest {
         due(-2000000000, x.of(0, 7));
         x.mirror(4);
         due(1, x.of(5, 6));
+        due(6, picture("o1+u1o2-u2o3+u3u4+o4o5-u5u6-o6o7+u7"));
+        due(7, picture("o1+u1o2+u2o3+u3o4+u4o5+u5o6+u6o7+u7"));
+        for (int p = 6; p <= 7; p++) {
+            due(9, x.of(p, 2));
+            due(0, x.of(p, 3));
+            due(0, x.of(p, 4));
+            due(1, x.of(p, 5));
+            due(0, x.of(p, 6));
+        }
     }
 
     private static void led() {
@@ -342,6 +351,15 @@ public final class PromiseTest {
         due(-1, x.alike(-1));
         due(-1, x.alike(-200));
         due(-1, x.alike(Integer.MIN_VALUE));
+        begin(9);
+        for (int p = 0; p < 11; p++) x.picture();
+        picture(TREFOIL);
+        due(1, x.alike(1000));
+        due(0, x.alike(1011));
+        due(0, x.alike(1110));
+        due(1, x.alike(1111));
+        due(-1, x.alike(1112));
+        due(-1, x.alike(1200));
     }
 
     private static void mirror() {
@@ -473,7 +491,10 @@ public final class PromiseTest {
         due(1, x.moves(7, 1));
         due(8, plait("aaaaA", 2));
         due(4, x.moves(8, 1));
-        due(-1, x.moves(9, 0));
+        // crossings 1 and 2 have unlike signs and follow one another over, but not under
+        due(9, picture("o1+o2+o3-u4-o5-u1o6+u3o4u5u2u6"));
+        due(0, x.moves(9, 0));
+        due(-1, x.moves(10, 0));
         due(-1, x.moves(-1, 0));
         due(-1, x.moves(0, 2));
         due(-1, x.moves(0, -1));
@@ -522,9 +543,12 @@ public final class PromiseTest {
         x.undo();
         due(-1, x.simplify(3));
         due(-1, x.simplify(-1));
+        due(3, picture("o1+u2+o3+u1o2u3o4-u4"));
         due(1, x.count(2));
         due(0, x.simplify(1));
         due(0, x.count(2));
+        due(3, x.simplify(3));
+        for (int k = 0; k < 6; k++) due(visits[k], x.led(3, k, 0));
         due(-5, x.undo());
         due(-5, x.redo());
         due(1, x.of(0, 1));
@@ -762,6 +786,12 @@ public final class PromiseTest {
         due(0, x.shake(0, 2, -77, 500));
         due(50, x.shake(0, 3, -77, 501));
         due(50, x.shake(0, 4, -77, 501));
+        due(1, law("n=98&b=99&s=9&m=2;0"));
+        due(0, x.shake(9899, 92, 1, 11));
+        due(1, x.shake(9999, 92, 1, 11));
+        due(1, x.shake(9898, 92, 1, 11));
+        due(1, x.shake(9899, 82, 1, 11));
+        due(1, x.shake(9899, 93, 1, 11));
         int[][] wrong = {{-1, 2, 10}, {10000, 2, 10}, {0, 1, 10}, {0, 5, 10}, {0, -2, 10}, {0, 102, 10}, {0, 0, 10},
             {0, 2, 9}, {0, 2, 0}, {0, 2, 12}, {0, 2, 510}, {0, 2, -10}, {0, 2, -1}};
         for (int[] w : wrong) due(-1, x.shake(w[0], w[1], 0, w[2]));
@@ -782,6 +812,8 @@ public final class PromiseTest {
         due(-2, x.least(0, 2, 9, knotted + 1));
         due(1, law("n>98?3"));
         due(99, x.least(0, 2, 9, 1));
+        due(99, x.least(99, 2, 9, 1));
+        due(-2, x.least(99, 2, 9, 20));
         int[][] wrong = {{-1, 2, 1}, {100, 2, 1}, {0, 1, 1}, {0, 5, 1}, {0, 102, 1}, {0, -8, 1}, {0, 2, 0}, {0, 2, 21}, {0, 2, -1}};
         for (int[] w : wrong) due(-1, x.least(w[0], w[1], 0, w[2]));
     }
