@@ -7,7 +7,7 @@ import java.util.Random;
 
 /** Long runs of calls by lot: CordPocket and the model must answer alike, call by call. */
 public final class ModelTest {
-    private static final int RUNS = 400, CALLS = 512;
+    private static final int RUNS = 540, CALLS = 512;
     private static int wrong;
 
     private final Random lot;
@@ -30,7 +30,7 @@ public final class ModelTest {
     }
 
     private boolean run() {
-        while (calls.size() < CALLS - 40 && !parted) step();
+        while (calls.size() < CALLS - 150 && !parted) step();
         if (parted) for (String call : calls.subList(Math.max(0, calls.size() - 30), calls.size())) System.out.println("  " + call);
         return !parted;
     }

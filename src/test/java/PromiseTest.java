@@ -314,7 +314,7 @@ public final class PromiseTest {
             due(e == 0 ? 1 : 0, x.sum(0, e));
             due(e == -16 ? -1 : e == -12 || e == -4 ? 1 : 0, x.sum(1, e));
             due(Math.abs(e) == 4 ? -1 : Math.abs(e) == 8 || e == 0 ? 1 : 0, x.sum(2, e));
-            due(x.sum(1, -e), x.sum(3, e));
+            if (e % 4 == 0) due(x.sum(1, -e), x.sum(3, e));
         }
         // of seven turns: t^3 (1 + t^2 - t^3 + t^4 - t^5 + t^6 - t^7), t being x^-4
         int[] seven = {1, 0, 1, -1, 1, -1, 1, -1};
@@ -679,6 +679,7 @@ public final class PromiseTest {
         due(-101, law("1.5"));
         due(0, x.count(1));
         // a text of 120 bytes, and one that ends too early there
+        begin(21);
         due(1, law("n+".repeat(59) + "n"));
         due(1, law("n+".repeat(59) + "12"));
         due(-220, law("n+".repeat(60)));
